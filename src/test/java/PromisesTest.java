@@ -152,6 +152,15 @@ public final class PromisesTest {
         e.takeOut(0);
         due(5, e.street(0, 1, 1, 1, 1));
         due(1, e.way(0, 1, 0));
+        // nor while a parcel is in the round of any other van
+        Couriersday f = lineWith(1, 1);
+        f.van(10, 0, 100);
+        f.van(10, 0, 100);
+        f.put(1, 0, 0);
+        dueThrown(STATE, () -> f.street(0, 1, 1, 1, 1));
+        f.takeOut(0);
+        f.put(2, 0, 0);
+        dueThrown(STATE, () -> f.street(0, 1, 1, 1, 1));
     }
 
     private static void promise3() {
@@ -217,6 +226,12 @@ public final class PromisesTest {
         // rounded up: 7 minutes by 115 percent are 8.05
         d.factor(1, 115);
         due(69, d.arrival(1, 2, 60));
+        Couriersday up = new Couriersday();
+        up.street(0, 1, 1, 1, 0);
+        up.factor(0, 101);
+        due(2, up.arrival(0, 1, 0));
+        up.factor(0, 50);
+        due(1, up.arrival(0, 1, 0));
         // the hour of entering counts alone, also for a way into the next hour
         due(66, d.arrival(1, 2, 59));
         // to wait for a better hour at the begin, and on the way
@@ -369,6 +384,37 @@ public final class PromisesTest {
         dueThrown(INDEX, () -> d.put(0, 9, 0));
         dueThrown(STATE, () -> d.put(0, 0, 0));
         dueRound(d, 0, 2, 0, 1);
+        // back just in time, and room for just these sizes
+        Couriersday e = line(2);
+        e.van(30, 480, 520);
+        e.van(29, 480, 2000);
+        e.van(30, 480, 519);
+        e.parcel(2, 10, 0);
+        e.parcel(1, 20, 0);
+        due(40, e.put(0, 0, 0));
+        due(40, e.put(0, 0, 1));
+        e.takeOut(0);
+        dueThrown(STATE, () -> e.put(2, 0, 0));
+        e.takeOut(1);
+        due(40, e.put(1, 0, 0));
+        dueThrown(STATE, () -> e.put(1, 0, 1));
+        // the service at the last door is ahead of the way back
+        e.window(1, 0, 1439, 20);
+        dueThrown(STATE, () -> e.put(2, 0, 1));
+        due(40, e.put(0, 0, 1));
+        // the places that are not joined both ways
+        Couriersday f = new Couriersday();
+        f.street(0, 1, 5, 1, 0);
+        f.street(2, 0, 5, 1, 0);
+        f.van(100, 0, 2000);
+        f.parcel(1, 1, 0);
+        f.parcel(2, 1, 0);
+        dueThrown(STATE, () -> f.put(0, 0, 0));
+        dueThrown(STATE, () -> f.put(0, 0, 1));
+        f.street(1, 2, 5, 1, 0);
+        due(15, f.put(0, 0, 1));
+        due(15, f.put(0, 0, 0));
+        dueThrown(STATE, () -> f.put(0, 2, 0));
     }
 
     private static void promise11() {
@@ -566,6 +612,32 @@ public final class PromisesTest {
         due(0, e.better(0));
         dueRound(e, 0, 1, 0);
         due(2, e.undo());
+        // one way round a ring: by turning all of it round
+        Couriersday f = new Couriersday();
+        for (int place = 0; place <= 4; place++) {
+            f.street(place, (place + 1) % 5, 10, 1, 0);
+        }
+        f.van(100, 0, 2000);
+        for (int place = 1; place <= 4; place++) {
+            f.parcel(place, 1, 0);
+        }
+        putAll(f, 0, 3, 2, 1, 0);
+        due(200, f.ofRound(0, 0));
+        due(150, f.better(0));
+        dueRound(f, 0, 0, 1, 2, 3);
+        // with a window that all of the least rounds keep
+        Couriersday g = lineWith(4, 1, 2, 3, 4);
+        g.window(3, 0, 530, 0);
+        putAll(g, 0, 1, 3, 0, 2);
+        due(40, g.better(0));
+        dueRound(g, 0, 0, 1, 3, 2);
+        Couriersday h = lineWith(4, 1, 2, 3, 4);
+        h.window(0, 520, 1439, 0);
+        h.window(3, 0, 520, 0);
+        putAll(h, 0, 1, 3, 0, 2);
+        // the doors 2 4 1 3 take 120; 2 3 4 1 and 2 4 3 1 take 80, with the 1 ahead the 4 would be late
+        due(40, h.better(0));
+        dueRound(h, 0, 1, 2, 3, 0);
     }
 
     private static void promise18() {
@@ -597,6 +669,24 @@ public final class PromisesTest {
         }
         due(180, f.exact(0));
         dueRound(f, 0, 0, 1, 2, 3, 4, 5, 6, 7, 8);
+        // services and windows: 0 2 1 and 2 0 1 are back just in time at 553, 2 1 0 waits too long
+        Couriersday g = line(2);
+        g.van(100, 480, 553);
+        g.parcel(1, 1, 0);
+        g.parcel(1, 1, 0);
+        g.parcel(2, 1, 0);
+        g.window(0, 0, 1439, 15);
+        g.window(1, 525, 535, 10);
+        g.window(2, 0, 515, 8);
+        putAll(g, 0, 2, 0, 1);
+        due(73, g.exact(0));
+        dueRound(g, 0, 0, 2, 1);
+        due(73, g.together(1));
+        g.takeOut(2);
+        g.window(2, 0, 514, 8);
+        g.put(0, 0, 2);
+        due(73, g.exact(0));
+        dueRound(g, 0, 2, 0, 1);
     }
 
     private static void promise19() {
@@ -673,6 +763,31 @@ public final class PromisesTest {
         due(30, f.ofRound(0, 6));
         due(40, f.ofRound(0, 7));
         due(30, f.ofRound(0, 8));
+        // a star of nine arms: all ten doors are odd; the depot and one of them, the other eight by two
+        Couriersday g = new Couriersday();
+        g.van(900, 0, 2000);
+        for (int place = 1; place <= 9; place++) {
+            both(g, 0, place, 10);
+            g.parcel(place, 1, 0);
+        }
+        g.savings(0);
+        due(9, g.roundAt(0, NONE));
+        due(90, g.ofRound(0, 6));
+        due(180, g.ofRound(0, 7));
+        // doors at the same place are one; the pairing takes pairs that are no pairs of the tree
+        Couriersday h = new Couriersday();
+        both(h, 0, 1, 10);
+        both(h, 1, 2, 10);
+        both(h, 1, 3, 10);
+        both(h, 2, 3, 12);
+        both(h, 0, 2, 20);
+        h.van(900, 0, 2000);
+        for (int place : new int[] {1, 1, 2, 3, 3}) {
+            h.parcel(place, 1, 0);
+        }
+        putAll(h, 0, 0, 1, 2, 3, 4);
+        due(30, h.ofRound(0, 6));
+        due(30 + 10 + 12, h.ofRound(0, 7));
     }
 
     private static void promise21() {
@@ -700,6 +815,16 @@ public final class PromisesTest {
         dueThrown(INDEX, () -> d.does(1, 480));
         dueThrown(INDEX, () -> d.does(-1, 480));
         // from the depot's minute 0 on
+        // from door to door
+        Couriersday f = lineWith(3, 2, 1, 3);
+        f.window(1, 515, 600, 0);
+        f.window(2, 0, 1439, 4);
+        putAll(f, 0, 0, 1, 2);
+        int[][] more = {{499, 1}, {509, 1}, {510, 2}, {514, 2}, {515, 1}, {534, 1}, {535, 3}, {538, 3}, {539, 1},
+            {568, 1}, {569, 0}};
+        for (int[] one : more) {
+            due(one[1], f.does(0, one[0]));
+        }
         Couriersday e = line(1);
         e.van(1, 0, 2000);
         e.parcel(1, 1, 0);
@@ -1098,6 +1223,46 @@ public final class PromisesTest {
         for (int zone = 0; zone <= 2; zone++) {
             due(20, f.zone(true, zone));
         }
+        // zone 1 with the greatest load, zone 0 with the least: only these two count
+        Couriersday g = line(4);
+        g.parcel(2, 9, 0);
+        g.parcel(3, 20, 0);
+        g.parcel(4, 18, 0);
+        g.parcel(4, 2, 0);
+        g.setZone(2, 1);
+        g.setZone(3, 1);
+        g.setZone(4, 2);
+        // 0 29 20: the 2 touches the 1 of zone 0: 9 20 20, spread 11 of 29; then zone 1 has the greatest load still
+        due(1, g.balance());
+        due(0, g.zone(false, 2));
+        due(9, g.zone(true, 0));
+        due(20, g.zone(true, 1));
+        due(20, g.zone(true, 2));
+        // zone 2 with the greatest load, zone 1 with the least
+        Couriersday h = line(3);
+        h.parcel(1, 5, 0);
+        h.parcel(2, 5, 0);
+        h.parcel(3, 1, 0);
+        h.setZone(1, 2);
+        h.setZone(2, 2);
+        h.setZone(3, 1);
+        h.setZone(4, 0);
+        h.parcel(4, 3, 0);
+        // 3 1 10: 2 goes over: 3 6 5; then 1 is the greatest, 0 the least: no street joins them
+        due(1, h.balance());
+        due(1, h.zone(false, 2));
+        // at the same spread the least place, be it lighter or not: 6 and 4 of 10 against 0 make 6 4 either way
+        Couriersday k = line(2);
+        k.street(1, 3, 1, 1, 0);
+        k.street(3, 2, 1, 1, 0);
+        k.parcel(1, 6, 0);
+        k.parcel(2, 4, 0);
+        k.setZone(3, 2);
+        k.setZone(4, 1);
+        k.parcel(4, 5, 0);
+        due(1, k.balance());
+        due(2, k.zone(false, 1));
+        due(0, k.zone(false, 2));
     }
 
     private static void promise34() {
@@ -1233,6 +1398,24 @@ public final class PromisesTest {
         due(480, g.share(0) + g.share(1));
         due(80, g.together(3));
         due(0, g.blocks());
+        // one alone blocks if the others make him dear: the sender 0 near the depot, the sender 1 with two far doors
+        Couriersday h = new Couriersday();
+        both(h, 0, 1, 20);
+        both(h, 0, 2, 1);
+        h.van(100, 0, 2000);
+        h.parcel(2, 1, 0);
+        h.parcel(1, 1, 1);
+        h.parcel(1, 1, 1);
+        h.window(0, 0, 45, 0);
+        h.window(1, 20, 20, 0);
+        h.window(2, 20, 65, 30);
+        due(2, h.together(1));
+        due(70, h.together(2));
+        due(112, h.together(3));
+        due(132, h.share(0));
+        due(540, h.share(1));
+        due(0, h.share(2));
+        due(1 << 1 | 1 << 2 | 1 << 5 | 1 << 6, h.blocks());
     }
 
     // ---- pay
@@ -1281,6 +1464,9 @@ public final class PromisesTest {
         e.rates(0, 9999);
         due(99980, e.pay(9999, 0));
         due(12499, e.pay(1250, 0));
+        e.rates(0, 1);
+        due(0, e.pay(499, 0));
+        due(1, e.pay(500, 0));
     }
 
     private static void promise40() {
