@@ -214,7 +214,10 @@ public final class Couriersday {
         needVan(van);
         history.remember(rounds);
         int before = rounds.costNow(van);
-        search.makeBetter(van);
+        int step = 0;
+        while (step < ENOUGH && search.makeBestMove(van)) {
+            step++;
+        }
         return before - rounds.costNow(van);
     }
 
@@ -1021,14 +1024,8 @@ public final class Couriersday {
             }
         }
 
-        void makeBetter(int van) {
-            int step = 0;
-            while (step < ENOUGH && makeBestMove(van)) {
-                step++;
-            }
-        }
-
-        private boolean makeBestMove(int van) {
+        /** Makes the move of a lesser cost that gives the least round, if there is one. */
+        boolean makeBestMove(int van) {
             int length = rounds.lengths[van];
             leastCost = rounds.costNow(van);
             isFound = false;
