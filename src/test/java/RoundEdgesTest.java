@@ -538,6 +538,25 @@ public final class RoundEdgesTest extends Edges {
         due(0, day(Edges::busy).putIn(3));
     }
 
+    static void p15TheExceptionListedFirst() {
+        // not WAITING or in a round, and no round would be kept
+        for (boolean isDelivered : new boolean[] {false, true}) {
+            Told told = d -> {
+                lineOfTwo(d);
+                d.parcel(1, 90, 0);
+                d.put(0, 0, 0);
+                if (isDelivered) {
+                    d.door(0, true);
+                    d.window(0, 0, 0, 0);
+                }
+            };
+            refused(STATE, told, d -> d.putIn(0));
+            refused(STATE, told, d -> d.putInCost(0));
+        }
+        refused(INDEX, RoundEdgesTest::nine, d -> d.putIn(9));
+        refused(STATE, RoundEdgesTest::nine, d -> d.putIn(8));
+    }
+
     static void p15NoRoundWouldBeKept() {
         // without a van, without a street, without room, too late
         refused(ELEMENT, d -> d.parcel(1, 1, 0), d -> d.putIn(0));
